@@ -926,8 +926,29 @@ public final class PardonLamps {
       town.clear();
       fault = 0;
       tape.rewind();
-      for (int i = 0; i < Tape.MOST && fault == 0 && tape.kind != Tape.END; i++) {
-        readTownLine(town);
+      boolean read = true;
+      for (int i = 0; i < Tape.MOST && read && tape.kind != Tape.END; i++) {
+        int line = tape.among(TOWN_LINES);
+        switch (line) {
+          case NONE:
+            read = fail(UNFIT);
+            break;
+          case 0:
+            read = readPerson(town);
+            break;
+          case 1:
+            read = readLane(town);
+            break;
+          case 2:
+            read = readWrong(town);
+            break;
+          case 3:
+            read = readWalk(town);
+            break;
+          default:
+            read = readOnce(town, line - FIRST_TOLD_ONCE);
+            break;
+        }
       }
       tape.length = 0;
       return fault;
@@ -937,29 +958,12 @@ public final class PardonLamps {
       year.lines = 0;
       fault = 0;
       tape.rewind();
-      for (int i = 0; i < Tape.MOST && fault == 0 && tape.kind != Tape.END; i++) {
-        readYearLine(year, wrongs);
+      boolean read = true;
+      for (int i = 0; i < Tape.MOST && read && tape.kind != Tape.END; i++) {
+        read = readYearLine(year, wrongs);
       }
       tape.length = 0;
       return fault;
-    }
-
-    private boolean readTownLine(Town town) {
-      int line = tape.among(TOWN_LINES);
-      switch (line) {
-        case NONE:
-          return fail(UNFIT);
-        case 0:
-          return readPerson(town);
-        case 1:
-          return readLane(town);
-        case 2:
-          return readWrong(town);
-        case 3:
-          return readWalk(town);
-        default:
-          return readOnce(town, line - FIRST_TOLD_ONCE);
-      }
     }
 
     private boolean readPerson(Town town) {

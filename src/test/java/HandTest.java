@@ -132,9 +132,12 @@ final class HandTest {
     x = Check.in(TOWN + "words 0 - 5;");
     check.due("no more sore by words", x.say(1), 9);
     check.due("but said", x.wrong(1, 5), 1);
-    // 99 at most are taken: at 99 sore nothing is left, so the limit shows only by 0.
-    x = Check.in(TOWN + "words sore * 1000;");
-    check.due("many", x.say(1), 0);
+    x = Check.in(TOWN + "words sore * 100; heals 0 - 9;");
+    for (int i = 0; i < 12; i++) {
+      x.night();
+    }
+    check.due("99", x.wrong(1, 3), 99);
+    check.due("99 less", x.say(1), 0);
   }
 
   private static void give() {
@@ -375,10 +378,35 @@ final class HandTest {
     x.mark(0, true);
     check.due("night", x.count(4), 2);
     check.due("mark 1 has nothing", x.mark(1, true), false);
+    sightsOfMarks();
     // A year is not held.
     Check.year(x, "night;");
     x.mark(3, true);
     check.due("the year stays", x.count(8), 1);
+  }
+
+  private static void sightsOfMarks() {
+    PardonLamps x = Check.in(TOWN);
+    // Ripe are 2 (dd's lamp, 2 nights) and 3 (aa's lamp, 1 night).
+    x.see(3, 1, true);
+    x.see(0, 0, false);
+    check.due("2 alone", x.sets(1), 4);
+    check.due("2 alone", x.sets(2), 4);
+    x.mark(1, false);
+    x.mark(2, false);
+    Check.town(x, TOWN);
+    x.mark(1, false);
+    x.see(0, 0, true);
+    x.see(3, 0, false);
+    check.due("3 alone", x.sets(1), 8);
+    x.mark(2, false);
+    x.mark(1, true);
+    check.due("no sight", x.sets(0), 4);
+    x.see(1, 5, true);
+    check.due("no set", x.sets(0), 0);
+    x.mark(2, true);
+    check.due("3 alone", x.sets(0), 1);
+    check.due("3 alone", x.sets(1), 8);
   }
 
   private static void counts() {

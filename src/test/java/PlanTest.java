@@ -344,5 +344,34 @@ final class PlanTest {
     x.ask(0);
     x.ask(1);
     check.due("1 - 0.81", x.wind(1, 0), 190000);
+    allSix();
+  }
+
+  private static void allSix() {
+    StringBuilder b = new StringBuilder("bar 30; wind 1; ");
+    for (char p = 'a'; p <= 'f'; p++) {
+      b.append("person p").append(p).append(" plain coins 0;");
+    }
+    for (char p = 'a'; p < 'f'; p++) {
+      b.append("lane p").append(p).append(" p").append((char) (p + 1)).append(" 30;");
+    }
+    for (char p = 'b'; p <= 'f'; p++) {
+      b.append("wrong pa to p").append(p).append(" size 9;");
+    }
+    PardonLamps x = Check.in(b + "wrong pf to pa size 8; walk pa to pf;");
+    check.due("the longest way", x.dark(0, 5, 0), 150);
+    check.due("the longest way", x.dark(0, 5, 1), 150);
+    check.due("harm", x.harm(), 150);
+    for (int w = 0; w < 6; w++) {
+      check.due("asked", x.ask(w), 1);
+    }
+    check.due("all burn", x.lamps(), 63);
+    check.due("lit", x.dark(0, 5, 0), 0);
+    check.due("lit", x.dark(0, 5, 1), 150);
+    check.due("no harm", x.harm(), 0);
+    check.due("stays", x.stays(0, 5), 9);
+    check.due("ab, cd, ef lit and bc, de too", x.need(), 1 + 4 + 16);
+    // No two neighbours are out: 1 - that chance, by k out of six (6, 10, 4 sets of 1, 2, 3).
+    check.due("wind", x.wind(0, 5), 531441 + 6 * 59049 + 10 * 6561 + 4 * 729);
   }
 }

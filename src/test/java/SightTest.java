@@ -69,6 +69,13 @@ final class SightTest {
     check.due("both at once", x.sets(0), 2);
     check.due("both at once", x.sets(1), 3);
     x = Check.in(TOWN);
+    x.see(1, 0, true);
+    x.see(1, 3, false);
+    x.see(2, 0, false);
+    check.due("one of both", x.sets(0), 2);
+    check.due("none in both", x.sets(1), 0);
+    check.due("each in some", x.sets(2), 3);
+    x = Check.in(TOWN);
     x.see(1, 5, true);
     check.due("never so long", x.sets(0), 0);
     // 99 nights at most, a priest's twice, and by how sore it is now.

@@ -16,6 +16,7 @@ final class TellingTest {
     lawFaults();
     yearFaults();
     whatATownClears();
+    manyTowns();
     faultsLeaveAll();
     check.end();
   }
@@ -61,6 +62,11 @@ final class TellingTest {
     check.due("then it is empty", x.count(11), 0);
     check.due("a year takes it too", Check.year(x, "   x"), 49);
     check.due("empty again", x.count(11), 0);
+    // Signs of a longer text that was taken are not read again.
+    check.due("bar 31", Check.town(x, "bar 31;"), 4 + 16 * 4);
+    check.due("bar 3", Check.town(x, "bar 3"), 1 + 16 * 5);
+    check.due("person ab", Check.town(x, "person abcd "), 1 + 16 * 12);
+    check.due("person ab", Check.town(x, "person ab"), 1 + 16 * 9);
     // What is beyond 1,000 is left out, so the sign behind is not read.
     StringBuilder b = new StringBuilder();
     for (int i = 0; i < 1000; i++) {
@@ -125,6 +131,8 @@ final class TellingTest {
     fault("words 1; ^words", 3);
     fault("heals 1; ^heals", 3);
     fault("burns 1; ^burns", 3);
+    fault("bar 1; wind 2; words 1; heals 2; burns 3; ^bar", 3);
+    fault("words 1; heals 2; bar 3; ^words", 3);
     fault("bar ^; ", 1);
     fault("wind ^sore", 1);
     // The first token that is wrong counts, not a worse one behind it.
@@ -362,6 +370,9 @@ final class TellingTest {
     check.due("all dark", x.lamps(), 0);
     check.due("sore", x.wrong(0, 3), 3);
     check.due("sore", x.wrong(1, 3), 9);
+    x.say(1);
+    check.due("again", Check.town(x, text), 0);
+    check.due("not said", x.wrong(1, 5), 0);
     // What was told once may be told in another town, and its defaults are back.
     check.due("bar 9", Check.town(x, TWO + "wrong aa to bb size 1; bar 9; words 5; wind 3;"), 0);
     check.due("bar", x.wrong(0, 6), 9);
@@ -373,6 +384,36 @@ final class TellingTest {
     check.due("an empty town", Check.town(x, " "), 0);
     check.due("nobody", x.count(0), 0);
     check.due("no coins", x.count(7), 0);
+  }
+
+  /** Nothing of a town is left in the second and the third one behind it. */
+  private static void manyTowns() {
+    PardonLamps x = new PardonLamps();
+    String rich = TWO + "lane aa bb 9; wrong aa to bb size 2; walk aa to bb; walk bb to aa; bar 9; wind 10; words 7;"
+        + "heals 5; burns 4;";
+    String plain = TWO + "person cc plain coins 0; lane aa cc 2; lane cc bb 3; wrong aa to cc size 1;"
+        + "wrong aa to cc size 5;";
+    for (int i = 0; i < 120; i++) {
+      check.due("rich", Check.town(x, rich), 0);
+      check.due("walks", x.count(3), 2);
+      check.due("harm", x.harm(), 18);
+      check.due("words", x.say(0), 0);
+      x.ask(0);
+      check.due("burns", x.person(1, 2), 4);
+      check.due("wind", x.wind(0, 1), 0);
+      for (int again = 0; again < 2; again++) {
+        check.due("plain", Check.town(x, plain), 0);
+        check.due("no walks", x.count(3), 0);
+        check.due("lanes", x.count(1), 2);
+        check.due("dark", x.dark(0, 1, 0), 5);
+        check.due("words", x.say(1), 13);
+        x.ask(0);
+        check.due("burns", x.person(2, 2), 1);
+        check.due("no wind", x.wind(0, 1), 1000000);
+        x.night();
+        check.due("heals", x.wrong(1, 3), 12);
+      }
+    }
   }
 
   private static void faultsLeaveAll() {
