@@ -1148,11 +1148,11 @@ public final class PardonLamps {
         return fail(TOO_MANY);
       }
       tape.advance();
-      int wrong = tape.value;
+      int wrong = deed == NIGHT ? 0 : tape.value;
       if (deed != NIGHT && !passNumber(0, wrongs - 1)) {
         return false;
       }
-      int coins = tape.value;
+      int coins = deed == GIVE ? tape.value : 0;
       if (deed == GIVE && !passNumber(1, MOST_GIVEN)) {
         return false;
       }

@@ -396,8 +396,8 @@ final class HandTest {
     x.mark(2, false);
     Check.town(x, TOWN);
     x.mark(1, false);
-    x.see(0, 0, true);
     x.see(3, 0, false);
+    x.see(0, 0, true);
     check.due("3 alone", x.sets(1), 8);
     x.mark(2, false);
     x.mark(1, true);

@@ -102,6 +102,7 @@ final class TellingTest {
   private static void townFaults() {
     fault("person aa ^coins", 1);
     fault("person aa saint ^12", 1);
+    fault("person aa plain ^person bb plain coins 1;", 1);
     fault("person aa saint coins ^aa", 1);
     fault("person aa saint coins 1 ^person", 1);
     fault("person aa plain coins 1; person ^aa", 3);
@@ -237,6 +238,7 @@ final class TellingTest {
     check.due("4096*4096*128 wraps", worth("4096*4096*128 < 0"), 1);
     check.due("the default of words", worthOfDefault(), 2);
     longLaw();
+    manyLongLaws();
   }
 
   private static int worthOfDefault() {
@@ -256,6 +258,18 @@ final class TellingTest {
       sum += i % 40 < 20 ? 1 : -1;
     }
     check.due("a law as long as the tape", worth(law.toString()), sum);
+  }
+
+  private static void manyLongLaws() {
+    PardonLamps x = new PardonLamps();
+    StringBuilder law = new StringBuilder("0");
+    for (int i = 0; i < 440; i++) {
+      law.append("+1");
+    }
+    for (int i = 0; i < 8; i++) {
+      check.due("long law " + i, Check.town(x, TWO + "wrong aa to bb size 9; words " + law + "-430;"), 0);
+      check.due("its worth " + i, x.say(0), 17);
+    }
   }
 
   private static void lawFaults() {
