@@ -102,7 +102,7 @@ final class TellingTest {
   private static void townFaults() {
     fault("person aa ^coins", 1);
     fault("person aa saint ^12", 1);
-    fault("person aa plain ^person bb plain coins 1;", 1);
+    fault("person aa plain ^person bb plain coins 1000;", 1);
     fault("person aa saint coins ^aa", 1);
     fault("person aa saint coins 1 ^person", 1);
     fault("person aa plain coins 1; person ^aa", 3);
