@@ -451,17 +451,10 @@ final class TellingTest {
   }
 
   private static void fault(String text, int kind) {
-    fault(new PardonLamps(), text, kind, false);
+    check.fault(text, kind);
   }
 
   private static void yearFault(PardonLamps x, String text, int kind) {
-    fault(x, text, kind, true);
-  }
-
-  private static void fault(PardonLamps x, String text, int kind, boolean year) {
-    int at = text.indexOf('^');
-    String bare = text.replace("^", "");
-    int got = year ? Check.year(x, bare) : Check.town(x, bare);
-    check.due((year ? "year " : "town ") + text, got, kind == 0 ? 0 : kind + 16 * at);
+    check.yearFault(x, text, kind);
   }
 }
