@@ -39,6 +39,7 @@ final class HandEdgesTest {
     judgedBegin();
     marks();
     marksHold();
+    marksHoldSights();
     counts();
     countsFull();
     check.end();
@@ -241,6 +242,10 @@ final class HandEdgesTest {
     PardonLamps x = Check.in(SQUARE);
     check.due("7 + 5", x.harm(), 12);
     check.due("it is not done", x.count(6), 0);
+    x.ask(3);
+    check.due("with aa's last night", x.harm(), 2);
+    x.night();
+    check.due("without it", x.harm(), 12);
     check.sentence(0, "the least DARK of all walks together, 100 for one that has no WAY");
     check.due("no walk", Check.in(TWO).harm(), 0);
     check.due("no way", Check.in(six() + "walk pa to pb;").harm(), 100);
@@ -786,6 +791,39 @@ final class HandEdgesTest {
     x.night();
     x.mark(2, true);
     check.due("the newer one", x.count(4), 2);
+  }
+
+  private static void marksHoldSights() {
+    check.sentence(0, "MARKS 0 to 3 hold the night, WRONGS, LAMPS, coins, HARM, SIGHTS");
+    // Ripe are 2 (dd's lamp, 2 nights) and 3 (aa's lamp, 1 night): sights tell them apart.
+    PardonLamps x = Check.in(SQUARE);
+    x.mark(0, false);
+    x.see(3, 1, true);
+    x.see(0, 0, false);
+    x.mark(1, false);
+    x.mark(0, true);
+    check.due("none", x.sets(0), 4);
+    x.see(0, 0, true);
+    x.see(3, 0, false);
+    x.mark(2, false);
+    int[][] want = {{0, 12}, {4, 4}, {8, 8}};
+    int[] order = {1, 2, 0, 2, 1, 0};
+    for (int mark : order) {
+      check.due("back", x.mark(mark, true), true);
+      check.due("in all by mark " + mark, x.sets(1), want[mark][0]);
+      check.due("in some by mark " + mark, x.sets(2), want[mark][1]);
+    }
+    // All eight, each of its own.
+    for (int i = 0; i < 8; i++) {
+      x.see(i < 7 ? 1 : 3, i < 7 ? i : 1, i == 7);
+    }
+    x.mark(3, false);
+    check.due("2 or both", x.sets(0), 2);
+    x.mark(1, true);
+    x.mark(3, true);
+    check.due("eight", x.count(9), 8);
+    check.due("2 or both", x.sets(1), 4);
+    check.due("2 or both", x.sets(2), 12);
   }
 
   private static void counts() {

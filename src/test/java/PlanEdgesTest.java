@@ -31,6 +31,8 @@ final class PlanEdgesTest {
     need();
     wind();
     windChances();
+    fullTown();
+    fullTownNights();
     check.end();
   }
 
@@ -319,6 +321,11 @@ final class PlanEdgesTest {
     // The last NIGHT heals behind the last words.
     x = Check.in(TWO + "wrong aa to bb size 9;words sore-20;heals sore-18;");
     check.due("27, 20, 18", x.price(0, 1), 15);
+    // Both laws see the nights that have passed: 27 - (0 + 0) - (1 + 2) - (2 + 4) - 3.
+    x = Check.in(TWO + "wrong aa to bb size 9;words nights;heals nights*2;");
+    check.due("nights 0, 1, 2", x.price(0, 3), 15);
+    x.night();
+    check.due("nights 1, 2", x.price(0, 2), 15);
     check.sentence(0, "PRICE: the coins that it must be given then so as not to be refused");
     check.due("at the bar", Check.in(TWO + "wrong aa to bb size 2;bar 6;").price(0, 0), 0);
     check.due("one above", Check.in(TWO + "wrong aa to bb size 2;bar 5;").price(0, 0), 1);
@@ -481,6 +488,20 @@ final class PlanEdgesTest {
     PardonLamps y = Check.in(TWO + "wrong aa to bb size 1;".repeat(8));
     check.due("all eight", y.round(1, 0, 0), 8);
     check.due("no way", Check.in(FOUR + "wrong aa to bb size 1;").round(0, 200, 0), 0);
+    // One round after another, from other doors.
+    x = Check.in(FOUR + "lane aa bb 5;lane bb cc 5;lane cc dd 5;wrong aa to dd size 1;wrong bb to aa size 1;");
+    int[] all = {15, 20, 20, 15};
+    for (int from = 3; from >= 0; from--) {
+      check.due("from " + from, x.round(from, 200, 0), 2);
+      check.due("from " + from, x.round(from, 200, 1), all[from]);
+      check.due("from " + from, x.round(from, 200, 2), 9);
+    }
+    check.due("from cc, dd alone", x.round(2, 9, 2), 8);
+    check.due("from bb, aa alone", x.round(1, 9, 2), 1);
+    x.ask(1);
+    check.due("from aa", x.round(0, 200, 1), 15);
+    check.due("from bb", x.round(1, 200, 1), 10);
+    check.due("from cc", x.round(2, 200, 1), 5);
   }
 
   private static void circle() {
@@ -595,5 +616,69 @@ final class PlanEdgesTest {
     String before = Picture.of(x);
     x.wind(0, 5);
     check.due("nothing is blown out by it", Picture.of(x), before);
+  }
+
+  /** Six in a row of 30 minutes, eight wrongs that are ripe, four walks from end to end. */
+  private static PardonLamps full() {
+    return Check.in(six().replace("coins 0", "coins 9") + row(30) + "walk pa to pf;".repeat(4)
+        + "wrong pa to pb size 1;wrong pb to pc size 1;wrong pc to pd size 1;wrong pd to pe size 1;"
+        + "wrong pe to pf size 1;wrong pf to pa size 1;wrong pa to pb size 1;wrong pb to pa size 1;");
+  }
+
+  private static void fullTown() {
+    check.sentence(0, "person: 6 at most");
+    PardonLamps x = full();
+    check.due("harm", x.harm(), 600);
+    check.due("pb's lamp, two lanes", x.when(1, 0), 360);
+    check.due("0", x.when(1, 1), 0);
+    check.due("one lamp a night", x.when(3, 0), 1080);
+    for (int i = 1; i <= 3; i++) {
+      check.due("0, 1, 2", x.when(3, i), i - 1);
+    }
+    check.due("all lit", x.law(1, 0), 0);
+    check.due("pa and pb yet", x.law(2, 0), 360);
+    check.due("all dark", x.law(3, 0), 960);
+    check.due("pb, pc, pe", x.pay(0, 5, 1), 11);
+    check.due("for nothing", x.pay(0, 5, 0), 0);
+    check.due("pa, pc, pe", x.need(), 21);
+    check.due("0 and 7", x.circle(), 129);
+    check.due("all eight", x.round(0, 200, 0), 8);
+    check.due("all doors", x.round(0, 150, 2), 63);
+    check.due("sets", x.sets(0), 256);
+    check.due("in some", x.sets(2), 255);
+    check.due("pc by 1 alone", x.look(), 20);
+    check.due("the middle", x.middle(), 2);
+    check.due("by pa", x.grudges(0, true), 65);
+    check.due("to pa", x.grudges(0, false), 160);
+    check.due("the last", x.ripe(7), 0);
+    check.due("the last", x.price(7, 30), 0);
+  }
+
+  private static void fullTownNights() {
+    check.sentence(0, "wrong: a PERSON told to another one told, size 1 to 9; 8 at most");
+    PardonLamps x = full();
+    Check.year(x, "ask 7;ask 6;give 7 9;night;say 7;say 5;night;");
+    check.due("a forgiven one", x.judged(0), 2);
+    check.due("two", x.judged(1), 2);
+    check.due("pa and pb, then none", x.judged(2), 960);
+    check.due("a night", x.night(), 600);
+    check.due("healed", x.wrong(7, 3), 2);
+    check.due("words", x.say(7), 0);
+    check.due("a gift", x.give(6, 2), 0);
+    for (int w = 7; w >= 0; w--) {
+      check.due("asked", x.ask(w), 1);
+    }
+    check.due("all burn", x.lamps(), 63);
+    check.due("lit", x.dark(0, 5, 0), 0);
+    check.due("in no wind", x.wind(0, 5), 1000000);
+    check.due("a night", x.stays(0, 5), 1);
+    check.due("a night", x.night(), 0);
+    check.due("pa and pb burn yet", x.lamps(), 3);
+    check.due("none is left", x.circle(), -1);
+    check.due("one set", x.sets(0), 1);
+    check.due("by none", x.pay(0, 5, 0), -1);
+    check.due("lit by none", x.pay(0, 2, 1), 0);
+    check.due("undo", x.undo(), true);
+    check.due("all burn", x.lamps(), 63);
   }
 }

@@ -419,11 +419,48 @@ final class SightEdgesTest {
     check.due("none", x.years(1, 100, 1), 0);
     check.due("none", x.years(1, 100, 2), 0);
     check.due("nobody", new PardonLamps().years(9999, 100, 0), 0);
+    check.sentence(0, "HARM by these; how many are forgiven at last; NIGHTS of all LAMPS together at last");
+    x = Check.in(TWO + "walk aa to bb;wrong aa to bb size 9;bar 0;");
+    x.night();
+    x.night();
+    check.due("harm in all", x.count(6), 14);
+    check.due("by these alone", x.years(3, 1, 0), 7);
+    check.due("by these alone", x.years(3, 5, 0), 35);
     check.sentence(0, "1: a coin is given, 2: it is asked for, if that can be");
+    yearsByDeeds("12", "coins 1", 2, 1);
+    yearsByDeeds("12", "coins 0", 2, 0);
+    yearsByDeeds("112", "coins 2", 1, 1);
+    yearsByDeeds("112", "coins 1", 1, 0);
+    yearsByDeeds("2", "coins 0", 3, 1);
+    yearsByDeeds("2", "coins 0", 2, 0);
+    yearsByDeeds("22", "coins 0", 3, 1);
+    yearsByDeeds("02", "coins 9", 2, 0);
     // Nobody has a coin: a draw of 1 does nothing; bar 2 is never reached without words or healing.
     x = Check.in("person aa plain coins 0;person bb plain coins 0;wrong aa to bb size 1;bar 2;words 0;heals 0;");
     check.due("never forgiven", x.years(7, 100, 1), 0);
     x = Check.in("person aa plain coins 99;person bb plain coins 0;wrong aa to bb size 1;bar 30;words 0;heals 0;");
     check.due("forgiven once", x.years(7, 100, 1), 1);
+  }
+
+  /** By the first seed that draws these deeds for one wrong, 3 sore, of which words and nights heal nothing. */
+  private static void yearsByDeeds(String deeds, String coins, int bar, int want) {
+    int seed = 0;
+    while (seed < 9999 && !deeds(seed, deeds.length()).equals(deeds)) {
+      seed++;
+    }
+    PardonLamps x = Check.in("person aa plain " + coins + ";person bb plain coins 0;wrong aa to bb size 1;bar " + bar
+        + ";words 0;heals 0;");
+    check.due(deeds + " with " + coins + ", bar " + bar, x.years(seed, deeds.length(), 1), want);
+  }
+
+  private static String deeds(int seed, int nights) {
+    StringBuilder b = new StringBuilder();
+    long g = seed;
+    for (int i = 0; i < nights; i++) {
+      g = (g * 1103515245L + 12345L) % 2147483648L;
+      g = (g * 1103515245L + 12345L) % 2147483648L;
+      b.append(g / 65536L % 3);
+    }
+    return b.toString();
   }
 }

@@ -36,11 +36,13 @@ final class TellingEdgesTest {
     wraps();
     withoutLaws();
     firstToken();
+    firstTokenOfEachLine();
     theEnd();
     noPerson();
     toldAlready();
     oneTooMany();
     townFromThenOn();
+    townBehindTowns();
     faultLeavesAll();
     yearIsTheYear();
     check.end();
@@ -652,6 +654,32 @@ final class TellingEdgesTest {
     check.fault("words 9999;", 0);
   }
 
+  /** In each line, at each token but the first, what would begin a line can't stand, whatever is wrong behind it. */
+  private static void firstTokenOfEachLine() {
+    check.sentence(0, "of the first token from the left that is wrong the least");
+    String[] lines = {"person cc plain coins 1 ;", "lane aa bb 1 ;", "wrong aa to bb size 1 ;", "walk aa to bb ;", "wind 1 ;",
+        "words 1 + ( not 2 ) * large < 3 and sore = 4 or nights ;", "heals 1 ;", "burns 1 ;"};
+    for (String line : lines) {
+      String[] tokens = line.split(" ");
+      StringBuilder b = new StringBuilder(TWO);
+      for (int i = 0; i + 1 < tokens.length; i++) {
+        b.append(tokens[i]).append(' ');
+        check.fault(b + "^bar 99;", 1);
+        check.fault(b + "^! bar 99;", 1);
+      }
+      check.fault(TWO + line + "bar ^99;", 4);
+    }
+    for (String line : new String[] {"say 0 ;", "give 0 1 ;", "ask 0 ;", "night ;"}) {
+      StringBuilder b = new StringBuilder();
+      String[] tokens = line.split(" ");
+      for (int i = 0; i + 1 < tokens.length; i++) {
+        b.append(tokens[i]).append(' ');
+        check.yearFault(wrongsOf(1), b + "^ask 99;", 1);
+      }
+      check.yearFault(wrongsOf(1), line + "ask ^99;", 4);
+    }
+  }
+
   private static void theEnd() {
     check.sentence(0, "the end being one at the text's length");
     String town = "person aa plain coins 1;person bb plain coins 1;lane aa bb 1;wrong aa to bb size 1;walk aa to bb;words 1;";
@@ -760,6 +788,37 @@ final class TellingEdgesTest {
     check.due("undo", x.undo(), false);
     for (int mark = 0; mark < 4; mark++) {
       check.due("mark " + mark, x.mark(mark, true), false);
+    }
+  }
+
+  private static void townBehindTowns() {
+    check.sentence(0, "Without a FAULT a TOWN is the TOWN from then on");
+    String bare = TWO + "person cc plain coins 3;wrong aa to bb size 2;";
+    String fresh = Picture.of(Check.in(bare));
+    PardonLamps x = Check.in(FULL);
+    check.due("told", Check.town(x, FULL), 0);
+    x.harm();
+    check.due("told", Check.town(x, bare), 0);
+    check.due("nothing of another one is left", Picture.of(x), fresh);
+    check.due("told", Check.town(x, bare), 0);
+    check.due("nothing of another one is left", Picture.of(x), fresh);
+    // Each of three has the same lanes, told either way.
+    x = new PardonLamps();
+    for (int i = 1; i <= 3; i++) {
+      check.due("lanes", Check.town(x, people(6) + "lane pa pb " + i + ";lane pc pa 5;lane pf pa 6;"), 0);
+      check.due("minutes", x.dark(0, 1, 0), i);
+      check.due("lanes", x.count(1), 3);
+      check.due("no walk", x.count(3), 0);
+      check.due("lanes and a walk", Check.town(x, people(6) + "lane pb pa 9;lane pa pc 5;lane pa pf 6;walk pa to pb;"), 0);
+      check.due("minutes", x.harm(), 9);
+      check.due("a walk", x.count(3), 1);
+    }
+    // Laws as long as the tape, one after another.
+    x = new PardonLamps();
+    for (int i = 0; i < 8; i++) {
+      String law = "words 0" + repeat("+1", 400) + "-" + (400 - i) + ";";
+      check.due("a long law", Check.town(x, TWO + "wrong aa to bb size 9;" + law), 0);
+      check.due("its worth", x.say(0), 27 - i);
     }
   }
 
