@@ -803,8 +803,8 @@ final class HandEdgesTest {
     x.mark(1, false);
     x.mark(0, true);
     check.due("none", x.sets(0), 4);
-    x.see(0, 0, true);
     x.see(3, 0, false);
+    x.see(0, 0, true);
     x.mark(2, false);
     int[][] want = {{0, 12}, {4, 4}, {8, 8}};
     int[] order = {1, 2, 0, 2, 1, 0};
@@ -813,6 +813,17 @@ final class HandEdgesTest {
       check.due("in all by mark " + mark, x.sets(1), want[mark][0]);
       check.due("in some by mark " + mark, x.sets(2), want[mark][1]);
     }
+    // The same LAMP, another NIGHT.
+    x.see(3, 2, false);
+    x.mark(1, false);
+    x.mark(0, true);
+    x.see(3, 1, false);
+    x.mark(2, false);
+    x.mark(1, true);
+    check.due("out behind 2: all sets", x.sets(0), 4);
+    x.mark(2, true);
+    check.due("out behind 1: those without 2", x.sets(0), 2);
+    x.mark(0, true);
     // All eight, each of its own.
     for (int i = 0; i < 8; i++) {
       x.see(i < 7 ? 1 : 3, i < 7 ? i : 1, i == 7);

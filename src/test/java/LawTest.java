@@ -81,7 +81,8 @@ final class LawTest {
   }
 
   private static void years() {
-    PardonLamps x = Check.in(ROW + "wrong aa to bb size 1; wrong cc to bb size 2; wrong bb to aa size 9;");
+    String town = ROW + "wrong aa to bb size 1; wrong cc to bb size 2; wrong bb to aa size 9;";
+    PardonLamps x = Check.in(town);
     check.due("others", x.years(-1, 1, 0), -1);
     check.due("others", x.years(10000, 1, 0), -1);
     check.due("others", x.years(0, 0, 0), -1);
@@ -91,6 +92,8 @@ final class LawTest {
     // Draws by hand, from the document's words.
     for (int seed : new int[] {0, 1, 77, 5000, 9999}) {
       for (int nights : new int[] {1, 2, 9, 40, 100}) {
+        // A new one each time: an object is used for 512 calls.
+        x = Check.in(town);
         byHand(x, seed, nights, 3);
       }
     }

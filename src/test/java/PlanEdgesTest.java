@@ -173,6 +173,11 @@ final class PlanEdgesTest {
     }
     check.due("nobody", new PardonLamps().when(3, 4), -2);
     check.due("nobody", new PardonLamps().when(3, 3), -1);
+    check.sentence(0, "WHEN: so many NIGHTS (1 to 3)");
+    int[] harm = {-2, 0, 0, 7, -2};
+    for (int nights = 0; nights <= 4; nights++) {
+      check.due("when " + nights, x.when(nights, 0), harm[nights]);
+    }
     check.sentence(17, "1 + i: the i-th WRONG asked for (NONE: none)");
     check.due("0", x.when(3, 1), 0);
     check.due("1", x.when(3, 2), 1);

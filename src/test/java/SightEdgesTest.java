@@ -19,6 +19,7 @@ final class SightEdgesTest {
     lawNights();
     lawMore();
     restsOthers();
+    restsLosses();
     restsAll();
     yearsOthers();
     yearsDraws();
@@ -242,6 +243,13 @@ final class SightEdgesTest {
   }
 
   private static void lawNights() {
+    check.sentence(0, "LAW: HARM of so many NIGHTS (1 to 30) from now");
+    PardonLamps y = Check.in(TWO + "walk aa to bb;wrong aa to bb size 9;bar 0;");
+    for (int nights = 0; nights <= 31; nights++) {
+      // 27 sore: ripe behind 27 nights, lit for 9.
+      int want = nights < 1 || nights > 30 ? -1 : 7 * Math.min(27, nights);
+      check.due("law " + nights, y.law(nights, 0), want);
+    }
     check.sentence(0, "each WRONG, by numbers, ahead of each NIGHT is asked for if that would not be refused");
     // 6, 5, 4, 3: three dark nights, then two lit ones.
     PardonLamps x = Check.in(TWO + "walk aa to bb;wrong aa to bb size 2;");
@@ -310,6 +318,24 @@ final class SightEdgesTest {
     check.due("what NONE", x.rests(0, 1, PardonLamps.NONE), 1);
   }
 
+  private static void restsLosses() {
+    check.sentence(0, "each loses so much (0 to 9) by the dark; each who forgives loses so much (0 to 9) of pride");
+    PardonLamps x = new PardonLamps();
+    check.due("0, 0", x.rests(0, 0, 0), 0);
+    check.due("9, 0", x.rests(9, 0, 0), 1);
+    check.due("0, 9", x.rests(0, 9, 0), 0);
+    check.due("9, 9", x.rests(9, 9, 2), 2);
+    check.dueNone(x, 10, 9, -1);
+    check.dueNone(x, 9, 10, -1);
+    check.dueNone(x, -1, 0, -1);
+    check.dueNone(x, 0, -1, -1);
+    check.sentence(0, "it is light if one forgives: RESTS: by which neither would lose less by his other one");
+    check.due("one below the dark: one forgives", x.rests(5, 4, -1), 2);
+    check.due("as much as the dark: all but both", x.rests(5, 5, -1), 3);
+    check.due("one above the dark: both keep", x.rests(5, 6, -1), 1);
+    check.due("no pride: all but none", x.rests(1, 0, -1), 3);
+  }
+
   private static void restsAll() {
     check.sentence(31, "i: the i-th as 2 * the first one's choice + the other one's (1 forgives; the least first)");
     PardonLamps x = new PardonLamps();
@@ -354,6 +380,11 @@ final class SightEdgesTest {
     }
     check.due("what -1", x.years(0, 1, -1), -1);
     check.due("what 3", x.years(0, 1, 3), -1);
+    check.sentence(0, "YEARS by a SEED of so many nights (1 to 100)");
+    x = Check.in(TWO + "walk aa to bb;");
+    for (int nights = 0; nights <= 101; nights++) {
+      check.due("years of " + nights, x.years(1, nights, 0), nights < 1 || nights > 100 ? -1 : 7 * nights);
+    }
   }
 
   /** The same by hand, with draws by the document's words, on an object of its own. */

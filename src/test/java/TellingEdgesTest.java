@@ -6,6 +6,7 @@ final class TellingEdgesTest {
 
   public static void main(String[] args) {
     nobody();
+    none();
     feedPlaces();
     feedSigns();
     feedBehind();
@@ -69,6 +70,11 @@ final class TellingEdgesTest {
     check.due("mark", x.mark(0, true), false);
     check.due("judged", x.judged(0), -1);
     check.due("see", x.see(0, 0, false), false);
+  }
+
+  private static void none() {
+    check.sentence(0, "The constants: `NONE = -1`: None.");
+    check.due("NONE", PardonLamps.NONE, -1);
   }
 
   private static void feedPlaces() {
@@ -812,6 +818,18 @@ final class TellingEdgesTest {
       check.due("lanes and a walk", Check.town(x, people(6) + "lane pb pa 9;lane pa pc 5;lane pa pf 6;walk pa to pb;"), 0);
       check.due("minutes", x.harm(), 9);
       check.due("a walk", x.count(3), 1);
+    }
+    // Neither wind nor coins of another one are left.
+    x = new PardonLamps();
+    for (int i = 0; i < 3; i++) {
+      check.due("six and a gale", Check.town(x, people(6).replaceAll("coins .", "coins 9") + "wind 10;"), 0);
+      check.due("coins of six", x.count(7), 54);
+      for (int again = 0; again < 2; again++) {
+        check.due("two", Check.town(x, TWO + "lane aa bb 1;wrong aa to bb size 1;"), 0);
+        check.due("coins of two", x.count(7), 15);
+        x.ask(0);
+        check.due("no wind", x.wind(0, 1), 1000000);
+      }
     }
     // Laws as long as the tape, one after another.
     x = new PardonLamps();

@@ -407,7 +407,7 @@ final class TellingTest {
         + "heals 5; burns 4;";
     String plain = TWO + "person cc plain coins 0; lane aa cc 2; lane cc bb 3; wrong aa to cc size 1;"
         + "wrong aa to cc size 5;";
-    for (int i = 0; i < 120; i++) {
+    for (int i = 0; i < 9; i++) {
       check.due("rich", Check.town(x, rich), 0);
       check.due("walks", x.count(3), 2);
       check.due("harm", x.harm(), 18);
