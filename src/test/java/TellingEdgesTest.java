@@ -523,6 +523,12 @@ final class TellingEdgesTest {
     worth("not 0*4", 4);
     worth("not not 4", 1);
     worth("not (0+4)", 0);
+    worth("4+not 0", 5);
+    worth("4+not 7", 4);
+    worth("4*not 0+not 0*3", 7);
+    worth("1+2*not(3<2)", 3);
+    worth("0 or not 0", 1);
+    worth("1 and not 1", 0);
     check.fault("words (^);", 1);
     check.fault("words (1^;", 1);
     check.fault("words 1^);", 1);
@@ -631,12 +637,21 @@ final class TellingEdgesTest {
     check.due("burns", x.person(1, 2), 13);
     // Those of a town before are gone.
     check.due("others", Check.town(x, "words 5;heals 6;burns 7;"), 0);
-    check.due("none", Check.town(x, TWO + "wrong aa to bb size 3;bar 30;"), 0);
-    check.due("words", x.say(0), 7);
-    x.night();
-    check.due("heals", x.wrong(0, 3), 6);
-    x.ask(0);
-    check.due("burns", x.person(1, 2), 3);
+    for (int again = 0; again < 3; again++) {
+      check.due("none", Check.town(x, TWO + "wrong aa to bb size 3;bar 30;"), 0);
+      check.due("words", x.say(0), 7);
+      x.night();
+      check.due("heals", x.wrong(0, 3), 6);
+      x.ask(0);
+      check.due("burns", x.person(1, 2), 3);
+    }
+    // A shorter law has nothing of a longer one ahead of it.
+    check.due("a longer one", Check.town(x, "words not 1;"), 0);
+    check.due("a longer one", Check.town(x, "words not 1;"), 0);
+    for (int again = 0; again < 2; again++) {
+      check.due("a shorter one", Check.town(x, TWO + "wrong aa to bb size 3;words 7;"), 0);
+      check.due("words", x.say(0), 2);
+    }
   }
 
   private static void firstToken() {
