@@ -1451,6 +1451,9 @@ public final class PardonLamps {
 
   /** What would come, tried on states of its own. */
   private static final class Forecast {
+    /** Four walks of three NIGHTS do 1,800 at most. */
+    private static final int MORE_THAN_ANY_HARM = 1 << 20;
+
     private final State trial = new State();
     private final State[] ahead = new State[MOST_ASKS + 1];
     private final int[] asks = new int[MOST_ASKS];
@@ -1480,7 +1483,7 @@ public final class PardonLamps {
     }
 
     int bestAsks(Town town, State now, int nights, int what) {
-      leastHarm = Integer.MAX_VALUE;
+      leastHarm = MORE_THAN_ANY_HARM;
       ahead[0].become(now);
       ahead[0].harm = 0;
       tryAsks(town, 0, nights);

@@ -9,6 +9,7 @@ import com.sun.source.tree.ForLoopTree;
 import com.sun.source.tree.LambdaExpressionTree;
 import com.sun.source.tree.LiteralTree;
 import com.sun.source.tree.MemberReferenceTree;
+import com.sun.source.tree.MemberSelectTree;
 import com.sun.source.tree.MethodInvocationTree;
 import com.sun.source.tree.MethodTree;
 import com.sun.source.tree.NewArrayTree;
@@ -222,6 +223,16 @@ final class RulesTest extends TreePathScanner<Void, Void> {
     }
     String name = called.getEnclosingElement().getSimpleName() + "." + called.getSimpleName();
     due("rule 4: " + name + at(tree), LIBRARY.contains(name) || name.equals("Object.<init>"));
+  }
+
+  @Override
+  public Void visitMemberSelect(MemberSelectTree tree, Void none) {
+    Element e = element();
+    if (e != null && e.getKind() == ElementKind.FIELD) {
+      boolean length = tree.getIdentifier().contentEquals("length");
+      due("rule 4: no field of the library" + at(tree), length || isOwn(e.getEnclosingElement().asType()));
+    }
+    return super.visitMemberSelect(tree, none);
   }
 
   @Override
